@@ -341,6 +341,13 @@ public final class PromiseTest {
         y.put(0, 0, 0);
         due("ready: the greatest time", y.ready(6, 15, 15), 1);
         due("ready: the least time", y.ready(0, 0, 0), 1);
+
+        FrontierWatch z = new FrontierWatch();
+        z.put(1, 2, 2);
+        z.put(1, 3, 3);
+        due("ready: the one put first is earlier", z.ready(1, 3, 3), 0);
+        z.take(1, 2, 2);
+        due("ready: the earlier one is taken", z.ready(1, 3, 3), 1);
     }
 
     // Promises 9 and 10
