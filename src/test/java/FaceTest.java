@@ -12,14 +12,19 @@ public final class FaceTest {
 
     public static void main(String[] args) {
         Class<?> face = FrontierWatch.class;
+        CHECKS.sentence("public final class FrontierWatch", () -> kindOfClass(face));
+        CHECKS.sentence("public FrontierWatch()", () -> constructors(face));
+        CHECKS.sentence("The public face", () -> openMethods(face));
+        CHECKS.sentence("No private method bears the name of a public one", () -> privateMethods(face));
+        CHECKS.sentence("Types", () -> fields(face));
+        CHECKS.end();
+    }
+
+    private static void kindOfClass(Class<?> face) {
         CHECKS.holds("the class is public and final",
             Modifier.isPublic(face.getModifiers()) && Modifier.isFinal(face.getModifiers()));
         CHECKS.holds("the class has no package", face.getPackageName().isEmpty());
         CHECKS.holds("no nested class", face.getDeclaredClasses().length == 0);
-        constructors(face);
-        methods(face);
-        fields(face);
-        CHECKS.end();
     }
 
     private static void constructors(Class<?> face) {
@@ -29,13 +34,11 @@ public final class FaceTest {
             Modifier.isPublic(all[0].getModifiers()) && all[0].getParameterCount() == 0);
     }
 
-    private static void methods(Class<?> face) {
+    private static void openMethods(Class<?> face) {
         Set<String> open = new TreeSet<>();
-        Set<String> openNames = new HashSet<>();
         for (Method method : face.getDeclaredMethods()) {
             if (!Modifier.isPrivate(method.getModifiers())) {
                 open.add(method.getName() + "/" + method.getParameterCount());
-                openNames.add(method.getName());
                 CHECKS.holds(method + " is a public method of an object, of int",
                     Modifier.isPublic(method.getModifiers())
                         && !Modifier.isStatic(method.getModifiers())
@@ -48,13 +51,13 @@ public final class FaceTest {
         CHECKS.holds("the open methods are the document's: " + open, open.equals(Set.of(
             "link/4", "unlink/1", "put/3", "take/3", "pass/3", "possible/3", "ready/3", "front/1",
             "frontAt/2", "shortest/2")));
+    }
+
+    private static void privateMethods(Class<?> face) {
+        Set<String> names = new HashSet<>();
         for (Method method : face.getDeclaredMethods()) {
-            if (Modifier.isPrivate(method.getModifiers())) {
-                CHECKS.holds(method + " bears no public method's name",
-                    !openNames.contains(method.getName()));
-                CHECKS.holds(method + " takes seven parameters at most",
-                    method.getParameterCount() <= 7);
-            }
+            CHECKS.holds(method + " is the only one of its name", names.add(method.getName()));
+            CHECKS.holds(method + " takes seven parameters at most", method.getParameterCount() <= 7);
         }
     }
 

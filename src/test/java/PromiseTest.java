@@ -1,262 +1,373 @@
 import java.util.function.ToIntFunction;
 
-/** The promises one by one: ordinary inputs, the edges that the document names, wrong inputs. */
+/**
+ * The sentences of the promises, each by a test of its own: ordinary inputs, the edges that the
+ * document names, wrong inputs.
+ */
 public final class PromiseTest {
     private static final Checks CHECKS = new Checks();
 
-    private static final int[] NOT_PLACES = {-1, 7, 8, 64, Integer.MIN_VALUE, Integer.MAX_VALUE};
-    private static final int[] NOT_IN_ADDITION = {-1, 4, 5, 16, Integer.MIN_VALUE, Integer.MAX_VALUE};
-    private static final int[] NOT_IN_TIME = {-1, 16, 17, 256, Integer.MIN_VALUE, Integer.MAX_VALUE};
-
-    // What sample() holds: lines as from, to, p, q, and tokens as place, a, b.
-    private static final int[][] LINES = {{0, 1, 1, 2}, {1, 2, 0, 3}, {2, 2, 2, 0}, {6, 0, 3, 1}};
-    private static final int[][] TOKENS = {{0, 1, 1}, {0, 1, 1}, {2, 0, 15}, {6, 15, 3}, {6, 4, 0}};
-
     public static void main(String[] args) {
-        newObject();
-        linkAdds();
-        linkRefuses();
-        unlinkTakesOut();
-        unlinkRefuses();
-        putPuts();
-        putRefuses();
-        takeTakesOne();
-        takeRefuses();
-        passMoves();
-        passRefuses();
-        passTooLate();
-        possibleAlongWays();
-        possibleEdges();
-        readyLooksAtOthers();
-        frontOfPlaces();
-        frontAtInOrder();
-        shortestCountsSums();
-        shortestGoesAboveTimes();
-        questionsRefuseWrongPlaces();
-        questionsRefuseWrongTimes();
-        questionsChangeNothing();
+        CHECKS.sentence("1: No line, no token", PromiseTest::newObject);
+
+        CHECKS.sentence("2: Adds a line", PromiseTest::linkAdds);
+        CHECKS.sentence("2: Answers the number of lines then", PromiseTest::linkAnswersNumber);
+        CHECKS.sentence("2: -1 also if there are 12", PromiseTest::linkWith12);
+
+        CHECKS.sentence("3: Takes the line with the number out", PromiseTest::unlinkTakesOut);
+        CHECKS.sentence("3: the ones behind it move one place back", PromiseTest::unlinkMovesBack);
+        CHECKS.sentence("3: Answers the number of lines then", PromiseTest::unlinkAnswersNumber);
+        CHECKS.sentence("3: -1 if there is none", PromiseTest::unlinkOfNone);
+
+        CHECKS.sentence("4: Puts a token at the place, with the time (a, b)", PromiseTest::putPuts);
+        CHECKS.sentence("4: Answers how many tokens there are then", PromiseTest::putAnswersNumber);
+        CHECKS.sentence("4: -1 also if there are 20", PromiseTest::putWith20);
+
+        CHECKS.sentence("5: Takes one token with the time (a, b) from the place", PromiseTest::takeTakesOne);
+        CHECKS.sentence("5: Answers how many tokens there are then", PromiseTest::takeAnswersNumber);
+        CHECKS.sentence("5: -1 also if there is none", PromiseTest::takeOfNone);
+
+        CHECKS.sentence("6: A token with the time (a, b) at the place from which the line leads goes along "
+            + "it: it is taken, and one with the time plus the line's addition is put at the line's other "
+            + "end", PromiseTest::passMoves);
+        CHECKS.sentence("6: Answers 0", PromiseTest::passAnswers0);
+        CHECKS.sentence("6: -1 also if there is no such line", PromiseTest::passWithoutLine);
+        CHECKS.sentence("6: -1 also if there is no such token", PromiseTest::passWithoutToken);
+        CHECKS.sentence("6: -2, and changes nothing, if a number of the new time would be above 15",
+            PromiseTest::passTooLate);
+        CHECKS.sentence("6: tested in this order", PromiseTest::passOrderOfTests);
+
+        CHECKS.sentence("7: 1 if some token can reach the place at the time (a, b)",
+            PromiseTest::possibleAlongWays);
+        CHECKS.sentence("7: else 0", PromiseTest::possibleNot);
+        CHECKS.sentence("7: -1", PromiseTest::possibleRefuses);
+
+        CHECKS.sentence("8: 1 if there is a token with the time (a, b) at the place",
+            PromiseTest::readyNeedsToken);
+        CHECKS.sentence("8: and every token that can reach the place at (a, b) lies there",
+            PromiseTest::readyOthersElsewhere);
+        CHECKS.sentence("8: and has this time", PromiseTest::readyOthersThere);
+        CHECKS.sentence("8: -1", PromiseTest::readyRefuses);
+
+        CHECKS.sentence("9: How many times the front of the place has", PromiseTest::frontCounts);
+        CHECKS.sentence("9: -1", PromiseTest::frontRefuses);
+
+        CHECKS.sentence("10: The time of the front with so many times of it that have a lesser a",
+            PromiseTest::frontAtInOrder);
+        CHECKS.sentence("10: index from 0", PromiseTest::frontAtIndex);
+        CHECKS.sentence("10: as 16 * a + b", PromiseTest::frontAtAnswer);
+        CHECKS.sentence("10: -1 also if there is none", PromiseTest::frontAtOfNone);
+
+        CHECKS.sentence("11: How many sums of ways from the one place to the other there are",
+            PromiseTest::shortestCounts);
+        CHECKS.sentence("11: such that no other sum of such a way is at most it",
+            PromiseTest::shortestLeavesOut);
+        CHECKS.sentence("11: -1", PromiseTest::shortestRefuses);
+
+        CHECKS.sentence("7 to 11: nothing is said to change", PromiseTest::questionsChangeNothing);
         CHECKS.end();
     }
 
     // Promise 1
 
     private static void newObject() {
+        Content.NONE.allIn(CHECKS, "new", new FrontierWatch());
         FrontierWatch x = new FrontierWatch();
         for (int place = 0; place < 7; place++) {
-            due("new: front", x.front(place), 0);
-            due("new: frontAt", x.frontAt(place, 0), -1);
-            due("new: possible", x.possible(place, 15, 15), 0);
-            due("new: ready", x.ready(place, 0, 0), 0);
-            due("new: take", x.take(place, 0, 0), -1);
+            due("front of " + place, x.front(place), 0);
+            due("frontAt of " + place, x.frontAt(place, 0), -1);
+            due("possible at " + place, x.possible(place, 15, 15), 0);
+            due("ready at " + place, x.ready(place, 0, 0), 0);
+            due("take from " + place, x.take(place, 0, 0), -1);
             for (int to = 0; to < 7; to++) {
-                due("new: shortest " + place + " " + to, x.shortest(place, to), place == to ? 1 : 0);
+                due("shortest " + place + " " + to, x.shortest(place, to), place == to ? 1 : 0);
             }
         }
-        due("new: unlink", x.unlink(0), -1);
-        due("new: pass", x.pass(0, 0, 0), -1);
-        due("new: first link", x.link(3, 3, 0, 0), 1);
-        due("new: first put", x.put(3, 0, 0), 1);
+        due("unlink", x.unlink(0), -1);
+        due("pass", x.pass(0, 0, 0), -1);
 
-        FrontierWatch y = new FrontierWatch();
-        due("objects share no line", y.link(0, 0, 0, 0), 1);
-        due("objects share no token", y.put(0, 0, 0), 1);
+        FrontierWatch full = Content.FULL.make();
+        Content.NONE.allIn(CHECKS, "new beside a full one", new FrontierWatch());
+        Content.FULL.allIn(CHECKS, "full beside a new one", full);
     }
 
     // Promise 2
 
     private static void linkAdds() {
-        FrontierWatch x = new FrontierWatch();
-        for (int i = 0; i < 12; i++) {
-            due("link: the number of lines", x.link(i % 7, (i + 1) % 7, i % 4, 3 - i % 4), i + 1);
-        }
-        due("link: the thirteenth", x.link(0, 0, 0, 0), -1);
-        for (int i = 0; i < 12; i++) {
-            x.put(i % 7, i, 1);
-            due("link: lines are numbered in order", x.pass(i, i, 1), 0);
-            due("link: with their end and addition",
-                x.take((i + 1) % 7, i + i % 4, 1 + 3 - i % 4), 0);
-        }
-        due("link: taken out", x.unlink(11), 11);
-        due("link: again twelve", x.link(0, 0, 0, 0), 12);
-        due("link: again full", x.link(0, 0, 0, 0), -1);
-
-        FrontierWatch y = new FrontierWatch();
-        due("link: 0, least addition", y.link(0, 6, 0, 0), 1);
-        due("link: 6, greatest addition", y.link(6, 0, 3, 3), 2);
-        due("link: to the same place", y.link(6, 6, 0, 3), 3);
-        due("link: the same line again", y.link(6, 6, 0, 3), 4);
+        Content.FULL.allIn(CHECKS, "twelve lines", Content.FULL.make());
+        Content.NONE.becomes(CHECKS, "the first line", 1, x -> x.link(0, 6, 0, 0),
+            Content.ofLines(new int[] {0, 6, 0, 0}));
+        Content.NONE.becomes(CHECKS, "the greatest addition", 1, x -> x.link(6, 0, 3, 3),
+            Content.ofLines(new int[] {6, 0, 3, 3}));
+        Content one = Content.ofLines(new int[] {4, 4, 3, 0});
+        one.becomes(CHECKS, "the same line again", 2, x -> x.link(4, 4, 3, 0),
+            Content.ofLines(new int[] {4, 4, 3, 0}, new int[] {4, 4, 3, 0}));
+        one.becomes(CHECKS, "numbers in their order", 2, x -> x.link(1, 2, 3, 0),
+            Content.ofLines(new int[] {4, 4, 3, 0}, new int[] {1, 2, 3, 0}));
+        FrontierWatch x = Content.ofTokens(new int[] {3, 5, 5}).make();
+        due("before it, not reached", x.possible(2, 15, 15), 0);
+        due("link", x.link(3, 2, 1, 1), 1);
+        due("tokens reach along it at once", x.possible(2, 6, 6), 1);
+        due("the line is counted at once", x.shortest(3, 2), 1);
     }
 
-    private static void linkRefuses() {
-        for (int wrong : NOT_PLACES) {
-            refused("link from " + wrong, x -> x.link(wrong, 0, 0, 0));
-            refused("link to " + wrong, x -> x.link(0, wrong, 0, 0));
+    private static void linkAnswersNumber() {
+        FrontierWatch x = new FrontierWatch();
+        for (int i = 1; i <= 12; i++) {
+            due("line " + i, x.link(i % 7, (i + 1) % 7, i % 4, 3 - i % 4), i);
         }
-        for (int wrong : NOT_IN_ADDITION) {
-            refused("link p " + wrong, x -> x.link(0, 1, wrong, 0));
-            refused("link q " + wrong, x -> x.link(0, 1, 0, wrong));
+        x.unlink(3);
+        x.unlink(3);
+        due("after two were taken out", x.link(0, 0, 0, 0), 11);
+        due("tokens do not count", Content.ofTokens(new int[][] {{0, 0, 0}, {1, 1, 1}}).make()
+            .link(0, 0, 0, 0), 1);
+    }
+
+    private static void linkWith12() {
+        for (int place = 0; place < 7; place++) {
+            int to = place;
+            Content.FULL.unchanged(CHECKS, "link to " + to, -1, x -> x.link(0, to, 0, 0));
         }
+        FrontierWatch x = Content.FULL.make();
+        due("the thirteenth", x.link(0, 0, 0, 0), -1);
+        due("the thirteenth again", x.link(0, 0, 0, 0), -1);
+        due("one out", x.unlink(0), 11);
+        due("the twelfth", x.link(0, 0, 0, 0), 12);
+        due("again a thirteenth", x.link(0, 0, 0, 0), -1);
     }
 
     // Promise 3
 
     private static void unlinkTakesOut() {
-        for (int out = 0; out < 12; out++) {
-            FrontierWatch x = new FrontierWatch();
-            for (int i = 0; i < 12; i++) {
-                x.link(i % 7, (i + 2) % 7, i % 4, i / 4);
-            }
-            due("unlink " + out, x.unlink(out), 11);
-            for (int i = 0; i < 11; i++) {
-                int was = i < out ? i : i + 1;
-                x.put(was % 7, 3, 4);
-                due("unlink " + out + ": pass along " + i, x.pass(i, 3, 4), 0);
-                due("unlink " + out + ": the end of " + i,
-                    x.take((was + 2) % 7, 3 + was % 4, 4 + was / 4), 0);
-            }
-            due("unlink " + out + ": none behind", x.unlink(11), -1);
-            for (int i = 11; i > 0; i--) {
-                due("unlink " + out + ": the first of " + i, x.unlink(0), i - 1);
-            }
-            due("unlink " + out + ": none left", x.unlink(0), -1);
-        }
-        FrontierWatch y = sample();
-        due("unlink: before it, reached", y.possible(1, 2, 3), 1);
-        y.unlink(0);
-        due("unlink: tokens no longer reach along it", y.possible(1, 15, 15), 0);
-        due("unlink: tokens stay", y.put(0, 0, 0), 6);
+        Content one = Content.ofLines(new int[] {5, 3, 2, 1});
+        one.becomes(CHECKS, "the only one", 0, x -> x.unlink(0), Content.NONE);
+        FrontierWatch x = Content.SOME.make();
+        due("before it, reached", x.possible(1, 2, 3), 1);
+        due("unlink", x.unlink(0), 3);
+        due("tokens no longer reach along it", x.possible(1, 15, 15), 0);
+        due("no way along it", x.shortest(0, 1), 0);
+        due("tokens stay", x.put(0, 0, 0), 6);
+        FrontierWatch twice = Content.ofLines(new int[] {0, 1, 2, 2}, new int[] {0, 1, 2, 2}).make();
+        due("one of two that are the same", twice.unlink(1), 1);
+        due("the other one stays", twice.shortest(0, 1), 1);
+        due("the other one", twice.unlink(0), 0);
+        due("none is left", twice.shortest(0, 1), 0);
     }
 
-    private static void unlinkRefuses() {
-        for (int wrong : new int[] {-1, 4, 5, 11, 12, Integer.MIN_VALUE, Integer.MAX_VALUE}) {
+    private static void unlinkMovesBack() {
+        for (int number = 0; number < 12; number++) {
+            int out = number;
+            Content.FULL.becomes(CHECKS, "unlink " + out, 11, x -> x.unlink(out), fullWithoutLine(out));
+        }
+    }
+
+    private static Content fullWithoutLine(int out) {
+        int[][] left = new int[11][];
+        for (int i = 0; i < 11; i++) {
+            left[i] = Content.FULL.lines[i < out ? i : i + 1];
+        }
+        return new Content(left, Content.FULL.tokens);
+    }
+
+    private static void unlinkAnswersNumber() {
+        for (int step = 0; step < 12; step++) {
+            FrontierWatch x = Content.FULL.make();
+            for (int left = 11; left >= 0; left--) {
+                due(left + " lines left", x.unlink(Math.min(step, left)), left);
+            }
+        }
+    }
+
+    private static void unlinkOfNone() {
+        Content.NONE.unchanged(CHECKS, "unlink 0", -1, x -> x.unlink(0));
+        Content.SOME.unchanged(CHECKS, "unlink 4", -1, x -> x.unlink(4));
+        Content.SOME.unchanged(CHECKS, "unlink 11", -1, x -> x.unlink(11));
+        Content.FULL.unchanged(CHECKS, "unlink 12", -1, x -> x.unlink(12));
+        for (int wrong : Numbers.outside(11)) {
             refused("unlink " + wrong, x -> x.unlink(wrong));
         }
+        FrontierWatch x = Content.FULL.make();
+        due("the last one", x.unlink(11), 11);
+        due("where the last one was", x.unlink(11), -1);
     }
 
     // Promise 4
 
     private static void putPuts() {
+        Content.FULL.allIn(CHECKS, "twenty tokens", Content.FULL.make());
+        Content.NONE.becomes(CHECKS, "the least ones", 1, x -> x.put(0, 0, 0),
+            Content.ofTokens(new int[] {0, 0, 0}));
+        Content.NONE.becomes(CHECKS, "the greatest ones", 1, x -> x.put(6, 15, 15),
+            Content.ofTokens(new int[] {6, 15, 15}));
+        Content.ofTokens(new int[] {2, 3, 9}).becomes(CHECKS, "numbers the other way", 2,
+            x -> x.put(2, 9, 3), Content.ofTokens(new int[] {2, 3, 9}, new int[] {2, 9, 3}));
         FrontierWatch x = new FrontierWatch();
-        for (int i = 0; i < 20; i++) {
-            due("put: the number of tokens", x.put(i % 7, i % 16, 15 - i % 16), i + 1);
-        }
-        due("put: the twenty-first", x.put(0, 0, 0), -1);
-        due("put: the twenty-first is not there", x.possible(0, 0, 0), 0);
-        for (int i = 0; i < 20; i++) {
-            due("put: the token is there", x.take(i % 7, i % 16, 15 - i % 16), 19 - i);
-        }
-
-        FrontierWatch y = new FrontierWatch();
-        for (int i = 0; i < 20; i++) {
-            due("put: all the same", y.put(6, 15, 0), i + 1);
-        }
-        due("put: no more of the same", y.put(6, 15, 0), -1);
-        due("put: one out", y.take(6, 15, 0), 19);
-        due("put: one in", y.put(0, 0, 15), 20);
-        due("put: full again", y.put(0, 0, 15), -1);
+        due("before it, not possible", x.possible(5, 15, 15), 0);
+        due("put", x.put(5, 4, 3), 1);
+        due("possible at once", x.possible(5, 4, 3), 1);
+        due("ready at once", x.ready(5, 4, 3), 1);
     }
 
-    private static void putRefuses() {
-        for (int wrong : NOT_PLACES) {
-            refused("put at " + wrong, x -> x.put(wrong, 0, 0));
+    private static void putAnswersNumber() {
+        FrontierWatch x = new FrontierWatch();
+        for (int i = 1; i <= 20; i++) {
+            due("token " + i, x.put(i % 7, i % 16, 15 - i % 16), i);
         }
-        for (int wrong : NOT_IN_TIME) {
-            refused("put a " + wrong, x -> x.put(0, wrong, 0));
-            refused("put b " + wrong, x -> x.put(0, 0, wrong));
+        x.take(1, 1, 14);
+        x.take(2, 2, 13);
+        due("after two were taken", x.put(0, 0, 0), 19);
+        due("lines do not count", Content.ofLines(new int[][] {{0, 0, 0, 0}, {0, 1, 0, 0}}).make()
+            .put(0, 0, 0), 1);
+    }
+
+    private static void putWith20() {
+        for (int place = 0; place < 7; place++) {
+            int at = place;
+            Content.FULL.unchanged(CHECKS, "put at " + at, -1, x -> x.put(at, 0, 0));
         }
+        FrontierWatch x = Content.FULL.make();
+        due("the twenty-first", x.put(3, 0, 0), -1);
+        due("the twenty-first is not there", x.take(3, 0, 0), -1);
+        due("one out", x.take(3, 12, 14), 19);
+        due("the twentieth", x.put(3, 0, 0), 20);
+        due("again a twenty-first", x.put(3, 0, 0), -1);
     }
 
     // Promise 5
 
     private static void takeTakesOne() {
-        FrontierWatch x = sample();
-        due("take: one of two", x.take(0, 1, 1), 4);
-        due("take: the other one is there", x.ready(0, 1, 1), 1);
-        due("take: the other one", x.take(0, 1, 1), 3);
-        due("take: none is there", x.take(0, 1, 1), -1);
-        due("take: not possible any more", x.possible(0, 1, 1), 0);
-        due("take: others stay", x.take(6, 15, 3), 2);
-        due("take: others stay", x.take(2, 0, 15), 1);
-        due("take: the last one", x.take(6, 4, 0), 0);
-        due("take: none at all", x.take(6, 4, 0), -1);
-        due("take: lines stay", x.link(0, 0, 0, 0), 5);
+        for (int number = 0; number < 20; number++) {
+            int[] token = Content.FULL.tokens[number];
+            Content.FULL.becomes(CHECKS, "take token " + number, 19, x -> x.take(token[0], token[1], token[2]),
+                fullWithoutToken(number));
+        }
+        FrontierWatch x = Content.SOME.make();
+        due("one of two", x.take(0, 1, 1), 4);
+        due("the other one is there", x.ready(0, 1, 1), 1);
+        due("the other one", x.take(0, 1, 1), 3);
+        due("not possible any more", x.possible(0, 1, 1), 0);
     }
 
-    private static void takeRefuses() {
-        refused("take from another place", x -> x.take(1, 1, 1));
-        refused("take at another a", x -> x.take(0, 2, 1));
-        refused("take at another b", x -> x.take(0, 1, 2));
-        refused("take with the numbers the other way", x -> x.take(2, 15, 0));
-        refused("take what can be reached only", x -> x.take(1, 2, 3));
-        for (int wrong : NOT_PLACES) {
-            refused("take from " + wrong, x -> x.take(wrong, 1, 1));
+    private static Content fullWithoutToken(int out) {
+        int[][] left = new int[19][];
+        for (int i = 0; i < 19; i++) {
+            left[i] = Content.FULL.tokens[i < out ? i : i + 1];
         }
-        for (int wrong : NOT_IN_TIME) {
-            refused("take a " + wrong, x -> x.take(0, wrong, 1));
-            refused("take b " + wrong, x -> x.take(0, 1, wrong));
+        return new Content(Content.FULL.lines, left);
+    }
+
+    private static void takeAnswersNumber() {
+        FrontierWatch x = Content.FULL.make();
+        for (int left = 19; left >= 0; left--) {
+            int[] token = Content.FULL.tokens[left];
+            due(left + " tokens left", x.take(token[0], token[1], token[2]), left);
         }
+        due("lines do not count", Content.SOME.make().take(6, 4, 0), 4);
+    }
+
+    private static void takeOfNone() {
+        Content.NONE.unchanged(CHECKS, "take from none", -1, x -> x.take(0, 0, 0));
+        Content.SOME.unchanged(CHECKS, "take from another place", -1, x -> x.take(1, 1, 1));
+        Content.SOME.unchanged(CHECKS, "take at another a", -1, x -> x.take(0, 2, 1));
+        Content.SOME.unchanged(CHECKS, "take at another b", -1, x -> x.take(0, 1, 2));
+        Content.SOME.unchanged(CHECKS, "take, numbers the other way", -1, x -> x.take(2, 15, 0));
+        Content.SOME.unchanged(CHECKS, "take what can be reached only", -1, x -> x.take(1, 2, 3));
+        Content.SOME.unchanged(CHECKS, "take at a later time", -1, x -> x.take(6, 15, 15));
+        FrontierWatch x = Content.ofTokens(new int[] {4, 2, 2}).make();
+        due("the only one", x.take(4, 2, 2), 0);
+        due("it is gone", x.take(4, 2, 2), -1);
     }
 
     // Promise 6
 
     private static void passMoves() {
-        FrontierWatch x = sample();
-        due("pass", x.pass(0, 1, 1), 0);
-        holds("pass: one of two", x, LINES,
-            new int[][] {{0, 1, 1}, {1, 2, 3}, {2, 0, 15}, {6, 15, 3}, {6, 4, 0}});
+        Content.SOME.becomes(CHECKS, "pass: one of two", 0, x -> x.pass(0, 1, 1), new Content(
+            Content.SOME.lines, new int[][] {{0, 1, 1}, {1, 2, 3}, {2, 0, 15}, {6, 15, 3}, {6, 4, 0}}));
+        Content.SOME.becomes(CHECKS, "pass: to the same place", 0, x -> x.pass(2, 0, 15), new Content(
+            Content.SOME.lines, new int[][] {{0, 1, 1}, {0, 1, 1}, {2, 2, 15}, {6, 15, 3}, {6, 4, 0}}));
+        Content round = new Content(new int[][] {{4, 4, 0, 0}}, new int[][] {{4, 15, 15}});
+        round.unchanged(CHECKS, "pass: to the same place without addition", 0, x -> x.pass(0, 15, 15));
 
-        FrontierWatch y = sample();
-        due("pass: to the same place", y.pass(2, 0, 15), 0);
-        holds("pass: to the same place", y, LINES,
-            new int[][] {{0, 1, 1}, {0, 1, 1}, {2, 2, 15}, {6, 15, 3}, {6, 4, 0}});
-
-        FrontierWatch full = new FrontierWatch();
-        full.link(0, 1, 3, 0);
+        FrontierWatch full = Content.ofLines(new int[] {0, 1, 3, 0}).make();
         for (int i = 0; i < 20; i++) {
             full.put(0, 12, 15);
         }
         for (int i = 0; i < 20; i++) {
-            due("pass: with twenty tokens, up to 15", full.pass(0, 12, 15), 0);
+            due("pass with twenty tokens", full.pass(0, 12, 15), 0);
         }
-        due("pass: all gone along", full.pass(0, 12, 15), -1);
+        due("all are gone along", full.pass(0, 12, 15), -1);
         for (int i = 0; i < 20; i++) {
-            due("pass: all at the other end", full.take(1, 15, 15), 19 - i);
+            due("all are at the other end", full.take(1, 15, 15), 19 - i);
         }
-
-        FrontierWatch round = new FrontierWatch();
-        round.link(4, 4, 0, 0);
-        round.put(4, 15, 15);
-        due("pass: round without addition", round.pass(0, 15, 15), 0);
-        due("pass: still there", round.take(4, 15, 15), 0);
     }
 
-    private static void passRefuses() {
-        for (int wrong : new int[] {-1, 4, 11, 12, Integer.MIN_VALUE, Integer.MAX_VALUE}) {
+    private static void passAnswers0() {
+        for (int number = 0; number < 12; number++) {
+            int[] line = Content.FULL.lines[number];
+            FrontierWatch x = Content.ofTokens(new int[] {line[0], 12, 12}).make();
+            for (int[] each : Content.FULL.lines) {
+                x.link(each[0], each[1], each[2], each[3]);
+            }
+            due("pass along " + number, x.pass(number, 12, 12), 0);
+            due("behind " + number, x.take(line[1], 12 + line[2], 12 + line[3]), 0);
+        }
+    }
+
+    private static void passWithoutLine() {
+        Content none = Content.ofTokens(new int[] {0, 1, 1});
+        none.unchanged(CHECKS, "pass along 0", -1, x -> x.pass(0, 1, 1));
+        Content.SOME.unchanged(CHECKS, "pass along 4", -1, x -> x.pass(4, 1, 1));
+        Content.SOME.unchanged(CHECKS, "pass along 11", -1, x -> x.pass(11, 1, 1));
+        Content.FULL.unchanged(CHECKS, "pass along 12", -1, x -> x.pass(12, 1, 1));
+        for (int wrong : Numbers.outside(11)) {
             refused("pass along " + wrong, x -> x.pass(wrong, 1, 1));
         }
-        for (int wrong : NOT_IN_TIME) {
+        FrontierWatch x = Content.SOME.make();
+        x.unlink(3);
+        due("where the last line was", x.pass(3, 4, 0), -1);
+    }
+
+    private static void passWithoutToken() {
+        Content noToken = Content.ofLines(new int[] {0, 1, 0, 0});
+        noToken.unchanged(CHECKS, "pass without any token", -1, x -> x.pass(0, 0, 0));
+        Content.SOME.unchanged(CHECKS, "pass at another a", -1, x -> x.pass(0, 2, 1));
+        Content.SOME.unchanged(CHECKS, "pass at another b", -1, x -> x.pass(0, 1, 2));
+        Content.SOME.unchanged(CHECKS, "pass from another place", -1, x -> x.pass(1, 1, 1));
+        Content.SOME.unchanged(CHECKS, "pass with a token at the end only", -1, x -> x.pass(1, 0, 15));
+        for (int wrong : Numbers.outside(15)) {
             refused("pass a " + wrong, x -> x.pass(0, wrong, 1));
             refused("pass b " + wrong, x -> x.pass(0, 1, wrong));
         }
-        refused("pass with no token at the time", x -> x.pass(0, 1, 2));
-        refused("pass with no token at the beginning", x -> x.pass(1, 1, 1));
-        refused("pass with a token at the end only", x -> x.pass(1, 0, 15));
-        refused("pass with no token comes before too late", x -> x.pass(0, 15, 15));
     }
 
     private static void passTooLate() {
-        unchanged("pass: a above 15", -2, x -> x.pass(3, 15, 3));
-        FrontierWatch x = new FrontierWatch();
-        x.link(0, 1, 3, 0);
-        x.link(0, 1, 0, 3);
-        int[][] lines = {{0, 1, 3, 0}, {0, 1, 0, 3}};
-        x.put(0, 13, 12);
-        x.put(0, 12, 13);
-        due("pass: a at 16", x.pass(0, 13, 12), -2);
-        due("pass: b at 16", x.pass(1, 12, 13), -2);
-        due("pass: b at 15", x.pass(1, 13, 12), 0);
-        due("pass: a at 15", x.pass(0, 12, 13), 0);
-        holds("pass: at 15", x, lines, new int[][] {{1, 13, 15}, {1, 15, 13}});
+        for (int time = 0; time < 256; time++) {
+            for (int addition = 0; addition < 16; addition++) {
+                int a = time / 16;
+                int b = time % 16;
+                int newA = a + addition / 4;
+                int newB = b + addition % 4;
+                Content before = new Content(new int[][] {{2, 3, addition / 4, addition % 4}},
+                    new int[][] {{2, a, b}});
+                Content after = new Content(before.lines, new int[][] {{3, newA, newB}});
+                boolean isLate = newA > 15 || newB > 15;
+                before.becomes(CHECKS, "pass from " + a + ", " + b + " to " + newA + ", " + newB,
+                    isLate ? -2 : 0, x -> x.pass(0, a, b), isLate ? before : after);
+            }
+        }
+        Content.SOME.unchanged(CHECKS, "pass: a above 15", -2, x -> x.pass(3, 15, 3));
+        Content.FULL.unchanged(CHECKS, "pass: both above 15", -2, x -> x.pass(6, 14, 14));
+        Content.FULL.unchanged(CHECKS, "pass: to the same place, above 15", -2, x -> x.pass(7, 15, 15));
+    }
+
+    private static void passOrderOfTests() {
+        Content.SOME.unchanged(CHECKS, "no line, too late along any", -1, x -> x.pass(4, 15, 3));
+        Content.SOME.unchanged(CHECKS, "no token, too late if there were one", -1, x -> x.pass(0, 15, 15));
+        Content.SOME.unchanged(CHECKS, "token elsewhere, too late", -1, x -> x.pass(0, 15, 3));
+        Content.SOME.unchanged(CHECKS, "no time, above 15", -1, x -> x.pass(3, 16, 3));
+        Content.SOME.unchanged(CHECKS, "line and token, too late", -2, x -> x.pass(3, 15, 3));
+        Content.FULL.unchanged(CHECKS, "full, no token, too late", -1, x -> x.pass(5, 15, 15));
+        Content.FULL.unchanged(CHECKS, "full, too late", -2, x -> x.pass(6, 13, 12));
     }
 
     // Promise 7
@@ -270,7 +381,7 @@ public final class PromiseTest {
         for (int i = 0; i <= 6; i++) {
             int a = 2 + i / 2;
             int b = 3 + i;
-            String what = "possible: along " + i + " lines ";
+            String what = "along " + i + " lines ";
             due(what + "at the time", x.possible(6 - i, a, b), 1);
             due(what + "a greater", x.possible(6 - i, a + 1, b), 1);
             due(what + "b greater", x.possible(6 - i, a, b + 1), 1);
@@ -278,220 +389,332 @@ public final class PromiseTest {
             due(what + "a lesser", x.possible(6 - i, a - 1, 15), 0);
             due(what + "b lesser", x.possible(6 - i, 15, b - 1), 0);
         }
+        FrontierWatch y = Content.ofLines(new int[] {0, 1, 3, 0}, new int[] {0, 1, 0, 3}).make();
+        y.put(0, 0, 0);
+        due("one line's sum", y.possible(1, 3, 0), 1);
+        due("the other line's sum", y.possible(1, 0, 3), 1);
+        y.put(1, 2, 2);
+        due("any token is enough", y.possible(1, 2, 2), 1);
+        FrontierWatch full = Content.FULL.make();
+        due("of twenty tokens, the last one", full.possible(6, 1, 1), 1);
+        due("the least time", full.possible(0, 0, 0), 1);
     }
 
-    private static void possibleEdges() {
-        FrontierWatch x = new FrontierWatch();
-        x.link(0, 1, 1, 0);
-        x.link(1, 0, 0, 1);
+    private static void possibleNot() {
+        due("no token", new FrontierWatch().possible(0, 15, 15), 0);
+        due("no token but lines", Content.ofLines(new int[] {0, 0, 0, 0}).make().possible(0, 15, 15), 0);
+        FrontierWatch x = Content.ofLines(new int[] {0, 1, 1, 0}, new int[] {1, 0, 0, 1}).make();
         x.put(0, 15, 0);
-        due("possible: the sum goes above 15", x.possible(1, 15, 15), 0);
-        due("possible: the empty way", x.possible(0, 15, 0), 1);
+        due("the sum goes above 15", x.possible(1, 15, 15), 0);
         x.put(1, 3, 3);
-        due("possible: the empty way in a round", x.possible(1, 3, 3), 1);
-        due("possible: against the other line", x.possible(0, 3, 4), 1);
-        due("possible: not without its addition", x.possible(0, 3, 3), 0);
-        due("possible: lines lead one way only", sample().possible(6, 3, 15), 0);
-
-        FrontierWatch y = new FrontierWatch();
-        y.link(0, 1, 3, 0);
-        y.link(0, 1, 0, 3);
+        due("along the line back", x.possible(0, 3, 4), 1);
+        due("not without its addition", x.possible(0, 3, 3), 0);
+        due("lines lead one way only", Content.SOME.make().possible(6, 3, 15), 0);
+        FrontierWatch y = Content.ofLines(new int[] {0, 1, 3, 0}, new int[] {0, 1, 0, 3}).make();
         y.put(0, 0, 0);
-        due("possible: one line's sum", y.possible(1, 3, 0), 1);
-        due("possible: the other line's sum", y.possible(1, 0, 3), 1);
-        due("possible: not the least of both", y.possible(1, 2, 2), 0);
-        y.put(1, 2, 2);
-        due("possible: any token is enough", y.possible(1, 2, 2), 1);
+        due("not the least numbers of both lines", y.possible(1, 2, 2), 0);
+        due("taken", y.take(0, 0, 0), 0);
+        due("after it was taken", y.possible(1, 15, 15), 0);
+    }
+
+    private static void possibleRefuses() {
+        for (int wrong : Numbers.outside(6)) {
+            refused("possible at " + wrong, x -> x.possible(wrong, 15, 15));
+        }
+        refusesTimes("possible", (x, a, b) -> x.possible(0, a, b));
     }
 
     // Promise 8
 
-    private static void readyLooksAtOthers() {
+    private static void readyNeedsToken() {
         FrontierWatch x = new FrontierWatch();
-        due("ready: no token", x.ready(2, 5, 5), 0);
+        due("no token", x.ready(2, 5, 5), 0);
         x.put(2, 5, 5);
-        due("ready: one token", x.ready(2, 5, 5), 1);
-        due("ready: a later time has no token", x.ready(2, 6, 6), 0);
-        due("ready: another place has no token", x.ready(3, 5, 5), 0);
-        x.put(2, 5, 5);
-        due("ready: two of the same", x.ready(2, 5, 5), 1);
-        x.put(2, 5, 6);
-        due("ready: a later one beside it", x.ready(2, 5, 5), 1);
-        due("ready: an earlier one beside it", x.ready(2, 5, 6), 0);
-        x.put(2, 6, 4);
-        due("ready: neither is at most the other", x.ready(2, 5, 5), 1);
-        due("ready: neither is at most the other", x.ready(2, 6, 4), 1);
-        x.put(0, 3, 4);
-        due("ready: elsewhere without a way", x.ready(2, 5, 5), 1);
+        due("one token", x.ready(2, 5, 5), 1);
+        due("a later time has no token", x.ready(2, 6, 6), 0);
+        due("a later b has no token", x.ready(2, 5, 6), 0);
+        due("an earlier time has no token", x.ready(2, 5, 4), 0);
+        due("another place has no token", x.ready(3, 5, 5), 0);
+        x.link(2, 3, 0, 0);
+        due("reached, but no token there", x.ready(3, 5, 5), 0);
+        x.pass(0, 5, 5);
+        due("the token came there", x.ready(3, 5, 5), 1);
+        due("the token went away", x.ready(2, 5, 5), 0);
+        FrontierWatch y = Content.ofTokens(new int[] {6, 15, 15}, new int[] {0, 0, 0}).make();
+        due("the greatest time", y.ready(6, 15, 15), 1);
+        due("the least time", y.ready(0, 0, 0), 1);
+    }
+
+    private static void readyOthersElsewhere() {
+        FrontierWatch x = Content.ofTokens(new int[] {2, 5, 5}, new int[] {0, 3, 4}).make();
+        due("elsewhere without a way", x.ready(2, 5, 5), 1);
         x.link(0, 2, 3, 0);
-        due("ready: its way is too long", x.ready(2, 5, 5), 1);
+        due("its way is too long", x.ready(2, 5, 5), 1);
         x.link(0, 1, 2, 0);
         x.link(1, 2, 0, 1);
-        due("ready: a way that comes just at the time", x.ready(2, 5, 5), 0);
+        due("a way that comes just at the time", x.ready(2, 5, 5), 0);
         x.unlink(2);
-        due("ready: the way is gone", x.ready(2, 5, 5), 1);
-        x.link(2, 2, 0, 0);
-        due("ready: round to itself", x.ready(2, 5, 5), 1);
-        x.put(2, 4, 5);
-        due("ready: an earlier one at the same place", x.ready(2, 5, 5), 0);
-        due("ready: the earlier one itself", x.ready(2, 4, 5), 1);
+        due("the way is gone", x.ready(2, 5, 5), 1);
 
-        FrontierWatch y = new FrontierWatch();
-        y.put(6, 15, 15);
-        y.put(0, 0, 0);
-        due("ready: the greatest time", y.ready(6, 15, 15), 1);
-        due("ready: the least time", y.ready(0, 0, 0), 1);
+        FrontierWatch y = Content.ofTokens(new int[] {1, 5, 5}, new int[] {0, 5, 5}).make();
+        due("the same time elsewhere, no way", y.ready(1, 5, 5), 1);
+        y.link(0, 1, 0, 0);
+        due("the same time elsewhere, a way that adds nothing", y.ready(1, 5, 5), 0);
+        due("no way back", y.ready(0, 5, 5), 1);
+        y.pass(0, 5, 5);
+        due("when it has come", y.ready(1, 5, 5), 1);
+        y.link(1, 0, 0, 0);
+        due("its own round through another place", y.ready(1, 5, 5), 1);
 
-        FrontierWatch z = new FrontierWatch();
-        z.put(1, 2, 2);
-        z.put(1, 3, 3);
-        due("ready: the one put first is earlier", z.ready(1, 3, 3), 0);
-        z.take(1, 2, 2);
-        due("ready: the earlier one is taken", z.ready(1, 3, 3), 1);
+        FrontierWatch z = Content.ofTokens(new int[] {6, 15, 15}, new int[] {0, 0, 0}).make();
+        for (int i = 0; i < 6; i++) {
+            z.link(i, i + 1, 3, 0);
+        }
+        due("six lines, too far", z.ready(6, 15, 15), 1);
+        z.unlink(5);
+        z.link(5, 6, 0, 3);
+        due("six lines, just at the time", z.ready(6, 15, 15), 0);
     }
 
-    // Promises 9 and 10
+    private static void readyOthersThere() {
+        FrontierWatch x = Content.ofTokens(new int[] {2, 5, 5}, new int[] {2, 5, 5}).make();
+        due("two of the same", x.ready(2, 5, 5), 1);
+        x.put(2, 5, 6);
+        due("a later one beside it", x.ready(2, 5, 5), 1);
+        due("an earlier one beside it", x.ready(2, 5, 6), 0);
+        x.put(2, 6, 4);
+        due("neither is at most the other", x.ready(2, 5, 5), 1);
+        due("neither is at most the other", x.ready(2, 6, 4), 1);
+        x.link(2, 2, 0, 0);
+        due("round to itself", x.ready(2, 5, 5), 1);
+        x.put(2, 4, 5);
+        due("a lesser a", x.ready(2, 5, 5), 0);
+        due("the earlier one itself", x.ready(2, 4, 5), 1);
+        x.take(2, 4, 5);
+        x.put(2, 5, 4);
+        due("a lesser b", x.ready(2, 5, 5), 0);
 
-    private static void frontOfPlaces() {
-        FrontierWatch x = new FrontierWatch();
-        x.put(3, 5, 5);
-        x.put(3, 5, 5);
-        due("front: the same time twice", x.front(3), 1);
+        FrontierWatch y = Content.ofTokens(new int[] {1, 2, 2}, new int[] {1, 3, 3}).make();
+        due("the one put first is earlier", y.ready(1, 3, 3), 0);
+        y.take(1, 2, 2);
+        due("the earlier one is taken", y.ready(1, 3, 3), 1);
+    }
+
+    private static void readyRefuses() {
+        for (int wrong : Numbers.outside(6)) {
+            refused("ready at " + wrong, x -> x.ready(wrong, 1, 1));
+        }
+        refusesTimes("ready", (x, a, b) -> x.ready(0, a, b));
+    }
+
+    // Promise 9
+
+    private static void frontCounts() {
+        FrontierWatch x = Content.ofTokens(new int[] {3, 5, 5}, new int[] {3, 5, 5}).make();
+        due("the same time twice", x.front(3), 1);
+        due("another place", x.front(2), 0);
         x.put(3, 5, 6);
         x.put(3, 6, 5);
-        due("front: later ones are not in it", x.front(3), 1);
+        due("later ones are not in it", x.front(3), 1);
         x.put(3, 4, 6);
         x.put(3, 7, 0);
-        due("front: neither is at most the other", x.front(3), 3);
-        due("front: another place", x.front(2), 0);
+        due("neither is at most the other", x.front(3), 3);
         x.put(3, 0, 0);
-        due("front: the least time alone", x.front(3), 1);
-        due("front: the least time alone", x.frontAt(3, 0), 0);
+        due("the least time alone", x.front(3), 1);
 
-        FrontierWatch y = new FrontierWatch();
+        FrontierWatch all = new FrontierWatch();
+        due("none", all.front(6), 0);
         for (int a = 0; a < 16; a++) {
-            y.put(6, 15 - a, a);
+            all.put(6, 15 - a, a);
+            due("one more", all.front(6), a + 1);
         }
-        due("front: of sixteen times", y.front(6), 16);
-        for (int a = 0; a < 16; a++) {
-            due("frontAt: of sixteen times", y.frontAt(6, a), 16 * a + 15 - a);
-        }
-        due("frontAt: behind sixteen times", y.frontAt(6, 16), -1);
+        all.put(6, 0, 14);
+        due("one for two", all.front(6), 15);
+        all.put(6, 1, 13);
+        due("one for one", all.front(6), 15);
 
-        FrontierWatch z = new FrontierWatch();
-        z.link(0, 1, 1, 0);
-        z.link(1, 0, 0, 1);
+        FrontierWatch z = Content.ofLines(new int[] {0, 1, 1, 0}, new int[] {1, 0, 0, 1}).make();
         z.put(0, 15, 15);
-        due("front: its times end at 15", z.front(1), 0);
+        due("its times end at 15", z.front(1), 0);
         z.put(0, 14, 15);
-        due("front: just at 15", z.front(1), 1);
-        due("front: just at 15", z.frontAt(1, 0), 255);
-        due("front: a round adds nothing to it", z.front(0), 1);
+        due("just at 15", z.front(1), 1);
+        due("a round adds nothing to it", z.front(0), 1);
     }
 
+    private static void frontRefuses() {
+        for (int wrong : Numbers.outside(6)) {
+            refused("front of " + wrong, x -> x.front(wrong));
+        }
+    }
+
+    // Promise 10
+
     private static void frontAtInOrder() {
-        FrontierWatch x = new FrontierWatch();
-        x.link(0, 1, 3, 0);
-        x.link(0, 1, 0, 3);
-        x.link(1, 2, 2, 0);
-        x.link(1, 2, 0, 1);
+        FrontierWatch x = Content.ofLines(new int[] {0, 1, 3, 0}, new int[] {0, 1, 0, 3},
+            new int[] {1, 2, 2, 0}, new int[] {1, 2, 0, 1}).make();
         x.put(0, 1, 2);
-        int[] due = {16 + 6, 16 * 3 + 5, 16 * 4 + 3, 16 * 6 + 2};
-        due("frontAt: how many", x.front(2), due.length);
-        for (int i = 0; i < due.length; i++) {
-            due("frontAt: " + i, x.frontAt(2, i), due[i]);
-        }
-        for (int wrong : new int[] {-1, 4, 15, 16, 256, Integer.MIN_VALUE, Integer.MAX_VALUE}) {
-            due("frontAt: " + wrong, x.frontAt(2, wrong), -1);
-            refused("frontAt: index " + wrong, y -> y.frontAt(0, wrong));
-        }
+        frontDue("of four sums", x, 2, 16 + 6, 16 * 3 + 5, 16 * 4 + 3, 16 * 6 + 2);
         x.put(2, 4, 2);
-        due("frontAt: after a lesser one", x.front(2), 3);
-        due("frontAt: after a lesser one", x.frontAt(2, 2), 16 * 4 + 2);
-        due("frontAt: the old last one is gone", x.frontAt(2, 3), -1);
+        frontDue("one for two", x, 2, 16 + 6, 16 * 3 + 5, 16 * 4 + 2);
+        x.put(2, 0, 15);
+        frontDue("one before", x, 2, 15, 16 + 6, 16 * 3 + 5, 16 * 4 + 2);
+        x.put(2, 15, 0);
+        frontDue("one behind", x, 2, 15, 16 + 6, 16 * 3 + 5, 16 * 4 + 2, 16 * 15);
+        x.take(2, 4, 2);
+        frontDue("two for one", x, 2, 15, 16 + 6, 16 * 3 + 5, 16 * 4 + 3, 16 * 6 + 2, 16 * 15);
+        frontDue("of another place", x, 1, 16 + 5, 16 * 4 + 2);
+    }
+
+    private static void frontAtIndex() {
+        FrontierWatch x = sixteenSums();
+        x.put(0, 0, 0);
+        int[] times = new int[16];
+        for (int a = 0; a < 16; a++) {
+            times[a] = 16 * a + 15 - a;
+        }
+        frontDue("sixteen times of one token", x, 6, times);
+    }
+
+    private static void frontAtAnswer() {
+        for (int time = 0; time < 256; time++) {
+            FrontierWatch x = Content.ofTokens(new int[] {time % 7, time / 16, time % 16}).make();
+            due("the front of " + time, x.frontAt(time % 7, 0), time);
+        }
+    }
+
+    private static void frontAtOfNone() {
+        FrontierWatch x = Content.ofTokens(new int[] {0, 4, 8}, new int[] {0, 8, 4}).make();
+        due("no time at the place", x.frontAt(1, 0), -1);
+        due("the last one", x.frontAt(0, 1), 16 * 8 + 4);
+        due("behind the last one", x.frontAt(0, 2), -1);
+        due("the a of a time is no index", x.frontAt(0, 4), -1);
+        x.put(0, 3, 3);
+        due("the last one is gone", x.frontAt(0, 1), -1);
+        x.take(0, 3, 3);
+        due("it is there again", x.frontAt(0, 1), 16 * 8 + 4);
+        for (int wrong : Numbers.outside(15)) {
+            refused("frontAt index " + wrong, y -> y.frontAt(0, wrong));
+        }
+        for (int wrong : Numbers.outside(6)) {
+            refused("frontAt of " + wrong, y -> y.frontAt(wrong, 0));
+        }
+    }
+
+    /** Also asks in front of the first time and behind the last one. */
+    private static void frontDue(String what, FrontierWatch x, int place, int... times) {
+        due(what + ": front", x.front(place), times.length);
+        due(what + ": frontAt -1", x.frontAt(place, -1), -1);
+        for (int i = 0; i < times.length; i++) {
+            due(what + ": frontAt " + i, x.frontAt(place, i), times[i]);
+        }
+        due(what + ": frontAt " + times.length, x.frontAt(place, times.length), -1);
     }
 
     // Promise 11
 
-    private static void shortestCountsSums() {
+    private static void shortestCounts() {
         FrontierWatch x = new FrontierWatch();
+        due("no way", x.shortest(0, 1), 0);
+        due("the empty way", x.shortest(0, 0), 1);
         x.link(0, 1, 1, 1);
-        due("shortest: one line", x.shortest(0, 1), 1);
-        due("shortest: not back", x.shortest(1, 0), 0);
-        x.link(0, 1, 1, 1);
-        due("shortest: the same sum twice", x.shortest(0, 1), 1);
-        x.link(0, 1, 1, 2);
-        x.link(0, 1, 2, 1);
-        due("shortest: greater sums", x.shortest(0, 1), 1);
+        due("one line", x.shortest(0, 1), 1);
+        due("not back", x.shortest(1, 0), 0);
         x.link(0, 1, 3, 0);
         x.link(0, 1, 0, 3);
-        due("shortest: neither is at most the other", x.shortest(0, 1), 3);
-        x.link(0, 0, 1, 0);
-        x.link(1, 0, 0, 1);
-        due("shortest: rounds add none", x.shortest(0, 1), 3);
-        due("shortest: to itself, the empty way", x.shortest(0, 0), 1);
-        due("shortest: back", x.shortest(1, 0), 1);
-        x.link(0, 1, 0, 0);
-        due("shortest: none is at most no addition but itself", x.shortest(0, 1), 1);
+        due("three sums", x.shortest(0, 1), 3);
         x.put(0, 15, 15);
-        due("shortest: tokens do not matter", x.shortest(0, 1), 1);
-        due("shortest: unlinked", x.unlink(8), 8);
-        due("shortest: as before", x.shortest(0, 1), 3);
-    }
-
-    private static void shortestGoesAboveTimes() {
-        FrontierWatch x = new FrontierWatch();
-        for (int i = 5; i >= 0; i--) {
-            x.link(i, i + 1, 3, 3);
-        }
-        due("shortest: the sum (18, 18)", x.shortest(0, 6), 1);
-        x.put(0, 0, 0);
-        due("shortest: no time is so late", x.front(6), 0);
+        due("tokens do not matter", x.shortest(0, 1), 3);
+        due("sixteen sums", sixteenSums().shortest(0, 6), 16);
 
         FrontierWatch y = new FrontierWatch();
         for (int i = 0; i < 6; i++) {
             y.link(i, i + 1, 3, 0);
             y.link(i, i + 1, 0, 3);
         }
-        due("shortest: from (0, 18) to (18, 0)", y.shortest(0, 6), 7);
+        due("from (0, 18) to (18, 0)", y.shortest(0, 6), 7);
         y.put(0, 0, 0);
-        due("shortest: the front has less", y.front(6), 5);
-        due("shortest: the front has less", y.frontAt(6, 0), 16 * 3 + 15);
-        due("shortest: the front has less", y.frontAt(6, 4), 16 * 15 + 3);
+        frontDue("the front has times to 15 only", y, 6,
+            16 * 3 + 15, 16 * 6 + 12, 16 * 9 + 9, 16 * 12 + 6, 16 * 15 + 3);
     }
 
-    // Promises 7 to 11, wrong inputs and no change
+    private static void shortestLeavesOut() {
+        FrontierWatch x = Content.ofLines(new int[] {0, 1, 1, 1}, new int[] {0, 1, 1, 1}).make();
+        due("the same sum twice is one", x.shortest(0, 1), 1);
+        x.link(0, 1, 1, 2);
+        x.link(0, 1, 2, 1);
+        due("greater sums", x.shortest(0, 1), 1);
+        x.link(0, 1, 3, 0);
+        x.link(0, 1, 0, 3);
+        due("neither is at most the other", x.shortest(0, 1), 3);
+        x.link(0, 0, 1, 0);
+        x.link(1, 0, 0, 1);
+        due("rounds add none", x.shortest(0, 1), 3);
+        due("to itself, the empty way is at most each", x.shortest(0, 0), 1);
+        due("back", x.shortest(1, 0), 1);
+        x.link(0, 1, 0, 0);
+        due("no addition is at most each", x.shortest(0, 1), 1);
+        due("unlinked", x.unlink(8), 8);
+        due("as before", x.shortest(0, 1), 3);
+        x.link(0, 2, 0, 1);
+        x.link(2, 1, 1, 0);
+        due("the same sum along another way is one", x.shortest(0, 1), 3);
+        x.link(2, 1, 0, 1);
+        due("a lesser one for one", x.shortest(0, 1), 3);
+        x.link(2, 1, 0, 0);
+        due("a lesser one for two", x.shortest(0, 1), 2);
+    }
 
-    private static void questionsRefuseWrongPlaces() {
-        for (int wrong : NOT_PLACES) {
-            refused("possible at " + wrong, x -> x.possible(wrong, 15, 15));
-            refused("ready at " + wrong, x -> x.ready(wrong, 1, 1));
-            refused("front of " + wrong, x -> x.front(wrong));
-            refused("frontAt of " + wrong, x -> x.frontAt(wrong, 0));
+    private static void shortestRefuses() {
+        for (int wrong : Numbers.outside(6)) {
             refused("shortest from " + wrong, x -> x.shortest(wrong, 0));
             refused("shortest to " + wrong, x -> x.shortest(0, wrong));
             refused("shortest from and to " + wrong, x -> x.shortest(wrong, wrong));
         }
     }
 
-    private static void questionsRefuseWrongTimes() {
-        for (int wrong : NOT_IN_TIME) {
-            refused("possible a " + wrong, x -> x.possible(0, wrong, 1));
-            refused("possible b " + wrong, x -> x.possible(0, 1, wrong));
-            refused("ready a " + wrong, x -> x.ready(0, wrong, 1));
-            refused("ready b " + wrong, x -> x.ready(0, 1, wrong));
+    /** Ways from 0 to 6 whose sums are (0, 15), (1, 14) and so on to (15, 0). */
+    private static FrontierWatch sixteenSums() {
+        FrontierWatch x = new FrontierWatch();
+        int[] steps = {1, 2, 3, 3, 3, 3};
+        for (int i = 0; i < 6; i++) {
+            x.link(i, i + 1, steps[i], 0);
+            x.link(i, i + 1, 0, steps[i]);
+        }
+        return x;
+    }
+
+    // Promises 7 to 11
+
+    private static void questionsChangeNothing() {
+        Content.SOME.unchanged(CHECKS, "possible", 1, x -> x.possible(2, 2, 6));
+        Content.SOME.unchanged(CHECKS, "possible, not", 0, x -> x.possible(2, 0, 14));
+        Content.SOME.unchanged(CHECKS, "ready", 1, x -> x.ready(0, 1, 1));
+        Content.SOME.unchanged(CHECKS, "ready, not", 0, x -> x.ready(0, 1, 2));
+        Content.SOME.unchanged(CHECKS, "front", 2, x -> x.front(2));
+        Content.SOME.unchanged(CHECKS, "frontAt", 15, x -> x.frontAt(2, 0));
+        Content.SOME.unchanged(CHECKS, "frontAt", 16 * 2 + 6, x -> x.frontAt(2, 1));
+        Content.SOME.unchanged(CHECKS, "shortest", 1, x -> x.shortest(6, 2));
+        for (int place = 0; place < 7; place++) {
+            int at = place;
+            Content.FULL.unchanged(CHECKS, "possible at " + at, 1, x -> x.possible(at, 15, 15));
+            Content.FULL.unchanged(CHECKS, "ready at " + at, 0, x -> x.ready(at, 15, 14));
+            Content.FULL.unchanged(CHECKS, "front of " + at, Content.FULL.make().front(at), x -> x.front(at));
+            Content.FULL.unchanged(CHECKS, "frontAt of " + at, Content.FULL.make().frontAt(at, 0),
+                x -> x.frontAt(at, 0));
+            Content.FULL.unchanged(CHECKS, "shortest to " + at, Content.FULL.make().shortest(0, at),
+                x -> x.shortest(0, at));
         }
     }
 
-    private static void questionsChangeNothing() {
-        unchanged("possible", 1, x -> x.possible(2, 2, 6));
-        unchanged("possible, not", 0, x -> x.possible(2, 0, 14));
-        unchanged("ready", 1, x -> x.ready(0, 1, 1));
-        unchanged("ready, not", 0, x -> x.ready(0, 1, 2));
-        unchanged("front", 2, x -> x.front(2));
-        unchanged("frontAt", 15, x -> x.frontAt(2, 0));
-        unchanged("frontAt", 16 * 2 + 6, x -> x.frontAt(2, 1));
-        unchanged("shortest", 1, x -> x.shortest(6, 2));
+    private interface TimedCall {
+        int answer(FrontierWatch x, int a, int b);
+    }
+
+    private static void refusesTimes(String what, TimedCall call) {
+        for (int wrong : Numbers.outside(15)) {
+            refused(what + ", a " + wrong, x -> call.answer(x, wrong, 1));
+            refused(what + ", b " + wrong, x -> call.answer(x, 1, wrong));
+        }
     }
 
     private static void due(String what, int got, int want) {
@@ -499,40 +722,6 @@ public final class PromiseTest {
     }
 
     private static void refused(String what, ToIntFunction<FrontierWatch> call) {
-        unchanged(what, -1, call);
-    }
-
-    private static void unchanged(String what, int want, ToIntFunction<FrontierWatch> call) {
-        FrontierWatch x = sample();
-        due(what, call.applyAsInt(x), want);
-        holds(what, x, LINES, TOKENS);
-    }
-
-    private static FrontierWatch sample() {
-        FrontierWatch x = new FrontierWatch();
-        for (int[] line : LINES) {
-            x.link(line[0], line[1], line[2], line[3]);
-        }
-        for (int[] token : TOKENS) {
-            x.put(token[0], token[1], token[2]);
-        }
-        return x;
-    }
-
-    /** Takes everything out of the object, so that all that it held is seen. */
-    private static void holds(String what, FrontierWatch x, int[][] lines, int[][] tokens) {
-        for (int i = 0; i < tokens.length; i++) {
-            due(what + ", then take token " + i,
-                x.take(tokens[i][0], tokens[i][1], tokens[i][2]), tokens.length - 1 - i);
-        }
-        for (int i = 0; i < lines.length; i++) {
-            int[] line = lines[i];
-            due(what + ", then a token for line " + i, x.put(line[0], 7, 8), 1);
-            due(what + ", then pass along line " + i, x.pass(i, 7, 8), 0);
-            due(what + ", then take behind line " + i, x.take(line[1], 7 + line[2], 8 + line[3]), 0);
-        }
-        for (int i = lines.length - 1; i >= 0; i--) {
-            due(what + ", then unlink " + i, x.unlink(i), i);
-        }
+        Content.refused(CHECKS, what, call);
     }
 }
