@@ -1,3 +1,4 @@
+import java.util.function.ToIntBiFunction;
 import java.util.function.ToIntFunction;
 
 /**
@@ -12,6 +13,7 @@ public final class PromiseTest {
 
         CHECKS.sentence("2: Adds a line", PromiseTest::linkAdds);
         CHECKS.sentence("2: Answers the number of lines then", PromiseTest::linkAnswersNumber);
+        CHECKS.sentence("2: -1", PromiseTest::linkRefuses);
         CHECKS.sentence("2: -1 also if there are 12", PromiseTest::linkWith12);
 
         CHECKS.sentence("3: Takes the line with the number out", PromiseTest::unlinkTakesOut);
@@ -21,10 +23,12 @@ public final class PromiseTest {
 
         CHECKS.sentence("4: Puts a token at the place, with the time (a, b)", PromiseTest::putPuts);
         CHECKS.sentence("4: Answers how many tokens there are then", PromiseTest::putAnswersNumber);
+        CHECKS.sentence("4: -1", PromiseTest::putRefuses);
         CHECKS.sentence("4: -1 also if there are 20", PromiseTest::putWith20);
 
         CHECKS.sentence("5: Takes one token with the time (a, b) from the place", PromiseTest::takeTakesOne);
         CHECKS.sentence("5: Answers how many tokens there are then", PromiseTest::takeAnswersNumber);
+        CHECKS.sentence("5: -1", PromiseTest::takeRefuses);
         CHECKS.sentence("5: -1 also if there is none", PromiseTest::takeOfNone);
 
         CHECKS.sentence("6: A token with the time (a, b) at the place from which the line leads goes along "
@@ -32,7 +36,7 @@ public final class PromiseTest {
             + "end", PromiseTest::passMoves);
         CHECKS.sentence("6: Answers 0", PromiseTest::passAnswers0);
         CHECKS.sentence("6: -1 also if there is no such line", PromiseTest::passWithoutLine);
-        CHECKS.sentence("6: -1 also if there is no such token", PromiseTest::passWithoutToken);
+        CHECKS.sentence("6: or token", PromiseTest::passWithoutToken);
         CHECKS.sentence("6: -2, and changes nothing, if a number of the new time would be above 15",
             PromiseTest::passTooLate);
         CHECKS.sentence("6: tested in this order", PromiseTest::passOrderOfTests);
@@ -121,6 +125,15 @@ public final class PromiseTest {
         due("after two were taken out", x.link(0, 0, 0, 0), 11);
         due("tokens do not count", Content.ofTokens(new int[][] {{0, 0, 0}, {1, 1, 1}}).make()
             .link(0, 0, 0, 0), 1);
+    }
+
+    private static void linkRefuses() {
+        refusesPlaces("link from", (x, place) -> x.link(place, 0, 0, 0));
+        refusesPlaces("link to", (x, place) -> x.link(0, place, 0, 0));
+        for (int wrong : Numbers.outside(3)) {
+            refused("link p " + wrong, x -> x.link(0, 1, wrong, 0));
+            refused("link q " + wrong, x -> x.link(0, 1, 0, wrong));
+        }
     }
 
     private static void linkWith12() {
@@ -220,6 +233,11 @@ public final class PromiseTest {
             .put(0, 0, 0), 1);
     }
 
+    private static void putRefuses() {
+        refusesPlaces("put", (x, place) -> x.put(place, 1, 1));
+        refusesTimes("put", (x, a, b) -> x.put(0, a, b));
+    }
+
     private static void putWith20() {
         for (int place = 0; place < 7; place++) {
             int at = place;
@@ -263,6 +281,11 @@ public final class PromiseTest {
             due(left + " tokens left", x.take(token[0], token[1], token[2]), left);
         }
         due("lines do not count", Content.SOME.make().take(6, 4, 0), 4);
+    }
+
+    private static void takeRefuses() {
+        refusesPlaces("take", (x, place) -> x.take(place, 1, 1));
+        refusesTimes("take", (x, a, b) -> x.take(0, a, b));
     }
 
     private static void takeOfNone() {
@@ -334,10 +357,7 @@ public final class PromiseTest {
         Content.SOME.unchanged(CHECKS, "pass at another b", -1, x -> x.pass(0, 1, 2));
         Content.SOME.unchanged(CHECKS, "pass from another place", -1, x -> x.pass(1, 1, 1));
         Content.SOME.unchanged(CHECKS, "pass with a token at the end only", -1, x -> x.pass(1, 0, 15));
-        for (int wrong : Numbers.outside(15)) {
-            refused("pass a " + wrong, x -> x.pass(0, wrong, 1));
-            refused("pass b " + wrong, x -> x.pass(0, 1, wrong));
-        }
+        refusesTimes("pass", (x, a, b) -> x.pass(0, a, b));
     }
 
     private static void passTooLate() {
@@ -418,9 +438,7 @@ public final class PromiseTest {
     }
 
     private static void possibleRefuses() {
-        for (int wrong : Numbers.outside(6)) {
-            refused("possible at " + wrong, x -> x.possible(wrong, 15, 15));
-        }
+        refusesPlaces("possible", (x, place) -> x.possible(place, 15, 15));
         refusesTimes("possible", (x, a, b) -> x.possible(0, a, b));
     }
 
@@ -501,9 +519,7 @@ public final class PromiseTest {
     }
 
     private static void readyRefuses() {
-        for (int wrong : Numbers.outside(6)) {
-            refused("ready at " + wrong, x -> x.ready(wrong, 1, 1));
-        }
+        refusesPlaces("ready", (x, place) -> x.ready(place, 1, 1));
         refusesTimes("ready", (x, a, b) -> x.ready(0, a, b));
     }
 
@@ -542,9 +558,7 @@ public final class PromiseTest {
     }
 
     private static void frontRefuses() {
-        for (int wrong : Numbers.outside(6)) {
-            refused("front of " + wrong, x -> x.front(wrong));
-        }
+        refusesPlaces("front", (x, place) -> x.front(place));
     }
 
     // Promise 10
@@ -595,9 +609,7 @@ public final class PromiseTest {
         for (int wrong : Numbers.outside(15)) {
             refused("frontAt index " + wrong, y -> y.frontAt(0, wrong));
         }
-        for (int wrong : Numbers.outside(6)) {
-            refused("frontAt of " + wrong, y -> y.frontAt(wrong, 0));
-        }
+        refusesPlaces("frontAt", (y, place) -> y.frontAt(place, 0));
     }
 
     /** Also asks in front of the first time and behind the last one. */
@@ -665,11 +677,9 @@ public final class PromiseTest {
     }
 
     private static void shortestRefuses() {
-        for (int wrong : Numbers.outside(6)) {
-            refused("shortest from " + wrong, x -> x.shortest(wrong, 0));
-            refused("shortest to " + wrong, x -> x.shortest(0, wrong));
-            refused("shortest from and to " + wrong, x -> x.shortest(wrong, wrong));
-        }
+        refusesPlaces("shortest from", (x, place) -> x.shortest(place, 0));
+        refusesPlaces("shortest to", (x, place) -> x.shortest(0, place));
+        refusesPlaces("shortest from and to", (x, place) -> x.shortest(place, place));
     }
 
     /** Ways from 0 to 6 whose sums are (0, 15), (1, 14) and so on to (15, 0). */
@@ -708,6 +718,12 @@ public final class PromiseTest {
 
     private interface TimedCall {
         int answer(FrontierWatch x, int a, int b);
+    }
+
+    private static void refusesPlaces(String what, ToIntBiFunction<FrontierWatch, Integer> call) {
+        for (int wrong : Numbers.outside(6)) {
+            refused(what + " " + wrong, x -> call.applyAsInt(x, wrong));
+        }
     }
 
     private static void refusesTimes(String what, TimedCall call) {

@@ -29,9 +29,9 @@ public final class TermsTest {
         CHECKS.sentence("A WAY from a place to a place is a row of lines, each beginning where the one "
             + "before it ends", TermsTest::waysAreJoined);
         CHECKS.sentence("it may be empty, from a place to itself", TermsTest::emptyWay);
-        CHECKS.sentence("its SUM is the sum of the additions of its lines, number by number",
-            TermsTest::sumOfAWay);
+        CHECKS.sentence("its SUM is the sum of the additions of its lines", TermsTest::sumOfAWay);
         CHECKS.sentence("as often as they stand in it", TermsTest::aLineOftenInAWay);
+        CHECKS.sentence("number by number", TermsTest::sumsOfBothNumbers);
         CHECKS.sentence("TOKENS lie at places, each with a time; there may be several with the same "
             + "place and time", TermsTest::severalTokensAlike);
         CHECKS.sentence("at most 20 in all", TermsTest::atMost20Tokens);
@@ -298,9 +298,6 @@ public final class TermsTest {
         CHECKS.due("of one line", x.frontAt(1, 0), 16 * 5 + 4);
         CHECKS.due("of two lines", x.frontAt(2, 0), 16 * 5 + 7);
         CHECKS.due("of three lines", x.frontAt(3, 0), 16 * 6 + 9);
-        FrontierWatch y = Content.ofLines(new int[][] {{0, 1, 3, 0}, {0, 1, 0, 3}}).make();
-        y.put(0, 0, 0);
-        CHECKS.due("p of one way and q of another make no sum", y.possible(1, 2, 2), 0);
         FrontierWatch z = new FrontierWatch();
         for (int i = 0; i < 6; i++) {
             z.link(i, i + 1, 3, 3);
@@ -326,6 +323,18 @@ public final class TermsTest {
         CHECKS.due("rounds that add nothing change no sum", y.shortest(0, 2), 1);
         CHECKS.due("rounds that add nothing change no time", y.frontAt(2, 0), 16 * 7 + 7);
         CHECKS.due("round, at once", y.frontAt(0, 0), 16 * 6 + 6);
+    }
+
+    private static void sumsOfBothNumbers() {
+        FrontierWatch x = Content.ofLines(new int[][] {{0, 1, 3, 0}, {1, 2, 3, 1}, {2, 3, 3, 0}}).make();
+        x.put(0, 6, 0);
+        CHECKS.due("nothing goes over from one number to the other", x.frontAt(3, 0), 16 * 15 + 1);
+        x.put(0, 0, 15);
+        CHECKS.due("b above 15 makes no a greater", x.front(2), 1);
+        FrontierWatch y = Content.ofLines(new int[][] {{0, 1, 3, 0}, {0, 1, 0, 3}}).make();
+        y.put(0, 0, 0);
+        CHECKS.due("p of one way and q of another make no sum", y.possible(1, 2, 2), 0);
+        CHECKS.due("nor both together", y.possible(1, 0, 2), 0);
     }
 
     // Terms: tokens
