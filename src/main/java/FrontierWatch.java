@@ -32,8 +32,9 @@ public final class FrontierWatch {
     private final int[] tokenB = new int[MOST_TOKENS];
     private int tokenCount;
 
-    // At place * SUMS + p: the least q such that (p, q) is the sum of a way from the place to the
-    // one that findWaysTo was last asked for.
+    // At place * SUMS + p: the least q such that (p, q) is the sum of a way that was found from the
+    // place to the one that findWaysTo was last asked for; it finds all that have LONGEST_WAY lines
+    // at most, and of the longer ones those that it comes upon.
     private final int[] leastQ = new int[PLACES_TIMES_SUMS];
     // The times that findFront last found, as frontAt answers them.
     private final int[] frontTimes = new int[TIME_NUMBERS];

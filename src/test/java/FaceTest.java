@@ -2,11 +2,10 @@ import java.lang.reflect.Constructor;
 import java.lang.reflect.Field;
 import java.lang.reflect.Method;
 import java.lang.reflect.Modifier;
-import java.util.HashSet;
 import java.util.Set;
 import java.util.TreeSet;
 
-/** The public face of the document, and what of LANGUAGE.md can be seen in the compiled class. */
+/** The public face of the document, as the compiled class shows it. */
 public final class FaceTest {
     private static final Checks CHECKS = new Checks();
 
@@ -15,8 +14,7 @@ public final class FaceTest {
         CHECKS.sentence("public final class FrontierWatch", () -> kindOfClass(face));
         CHECKS.sentence("public FrontierWatch()", () -> constructors(face));
         CHECKS.sentence("The public face", () -> openMethods(face));
-        CHECKS.sentence("No private method bears the name of a public one", () -> privateMethods(face));
-        CHECKS.sentence("Types", () -> fields(face));
+        CHECKS.sentence("The public face: no field", () -> openFields(face));
         CHECKS.end();
     }
 
@@ -53,23 +51,9 @@ public final class FaceTest {
             "frontAt/2", "shortest/2")));
     }
 
-    private static void privateMethods(Class<?> face) {
-        Set<String> names = new HashSet<>();
-        for (Method method : face.getDeclaredMethods()) {
-            CHECKS.holds(method + " is the only one of its name", names.add(method.getName()));
-            CHECKS.holds(method + " takes seven parameters at most", method.getParameterCount() <= 7);
-        }
-    }
-
-    private static void fields(Class<?> face) {
+    private static void openFields(Class<?> face) {
         for (Field field : face.getDeclaredFields()) {
-            Class<?> type = field.getType();
-            boolean isStatic = Modifier.isStatic(field.getModifiers());
             CHECKS.holds(field + " is private", Modifier.isPrivate(field.getModifiers()));
-            CHECKS.holds(field + " is of numbers or a row of numbers", type.isPrimitive()
-                || type.isArray() && type.getComponentType().isPrimitive());
-            CHECKS.holds(field + " is a constant of int or long if it is static", !isStatic
-                || Modifier.isFinal(field.getModifiers()) && (type == int.class || type == long.class));
         }
     }
 }
